@@ -88,6 +88,7 @@ public final class PromiseTest {
         shut();
         of();
         triplesAndTime();
+        withoutHours();
         uneven();
     }
 
@@ -220,6 +221,26 @@ public final class PromiseTest {
         x.shut(0, 1, 1);
         due("without labs", x.time(0, 5), bit(1, 5));
         due("there is no lab 1 then", x.time(0, 7), NONE);
+    }
+
+    /** A section may have no hours; a triple of such sections is lawful, and fits even who is always away. */
+    private static void withoutHours() {
+        promise = 6;
+        SectionOffice x = new SectionOffice();
+        due("lawful", x.section(3, 0, 0, 0, 2, -1), bit(0));
+        due("time", x.time(3, 0), 0);
+        x.section(3, 2, 0, 0, 2, -1);
+        x.pupil(0, HOURS - 1, 8);
+        due("fits", x.fits(0, 3), bit(0));
+        due("why", x.why(0, 3, 0), 0);
+        due("put", x.put(0, 3, 0), -1);
+        due("taken", x.of(3, 0, 0, 4), 1);
+        due("left", x.of(3, 2, 0, 5), 1);
+        due("no day", x.its(0, 4), 0);
+        due("still lawful", x.shut(3, 2, 0), 0);
+        due("still put", x.its(0, 13), 0);
+        due("line", lineOf(x, 0).equals("pupil d0--") ? 1 : 0, 1);
+        due("ways", x.ways(3), 2);
     }
 
     private static void uneven() {
@@ -506,6 +527,7 @@ public final class PromiseTest {
         due("pupil 1 is picked for where none is", y.its(1, 10), 7);
         due("nothing more", y.fill(2), 0);
         due("which is a change too", y.count(4), 11);
+        due("by the last rule", y.fill(4), 0);
         due("beyond", y.fill(5), BEYOND);
         due("beyond", y.fill(-1), BEYOND);
     }
@@ -538,6 +560,7 @@ public final class PromiseTest {
         mostAndSeat();
         evens();
         chainAndLets();
+        sixPupils();
         ways();
     }
 
@@ -631,6 +654,33 @@ public final class PromiseTest {
         due("one step", x.its(1, 10), -1);
     }
 
+    /** All six wish, and each moves on by one: whoever sits in lecture 0 with lab 0 is in the way of the next. */
+    private static void sixPupils() {
+        promise = 23;
+        SectionOffice x = new SectionOffice();
+        for (int part = 0; part < 4; part++) {
+            x.section(2, part / 2, part % 2, bit(part), 3, -1);
+        }
+        for (int i = 0; i < 6; i++) {
+            x.pupil(0, i < 3 ? 0 : bit(1), 4);
+        }
+        for (int i = 0; i < 3; i++) {
+            x.put(i, 2, 0);
+        }
+        due("all six", x.most(2), 6);
+        due("one other", x.chain(5, 2), 1);
+        due("let in, lab 0 being full yet", x.lets(5, 2), 2);
+        due("the last that sat moved: digits 1, 1, 5", x.its(2, 12), 4);
+        due("others sit yet", x.its(0, 12) + x.its(1, 12), 0);
+        due("moved", x.seat(2), 2);
+        int[] seats = {4, 4, 4, 2, 2, 0};
+        for (int i = 0; i < 6; i++) {
+            due("pupil " + i + " " + x.its(i, 12), x.its(i, 12) >> 2, seats[i] >> 2);
+        }
+        due("each sort is even already", x.evens(2), 0);
+        due("taken", x.of(2, 1, 1, 4), 3);
+    }
+
     private static void ways() {
         promise = 27;
         SectionOffice x = whole(9, 6);
@@ -639,6 +689,8 @@ public final class PromiseTest {
         due("one doesn't wish it", x.ways(0), 59049);
         SectionOffice y = whole(1, 2);
         due("none, eight and eight, eight pairs", y.ways(0), 1 + 16 + 8);
+        y.seat(0);
+        due("whoever sits now", y.ways(0), 1 + 16 + 8);
         due("beyond", y.ways(4), LONG_LOW);
         due("beyond", y.ways(-1), LONG_LOW);
         due("told", y.status(0), 2);
@@ -656,6 +708,14 @@ public final class PromiseTest {
         due("pupil 1", x.its(1, 10), 0);
         due("pupil 0 had a long that is no pupil, and two numbers", x.its(0, 10), -1);
         due("no finding is told", x.status(-1), 0);
+        x.sheet(1, 2, 6);
+        long[] longs = {0, 1L << 32, 0, 0, 0, 1L << 32};
+        for (int i = 0; i < longs.length; i++) {
+            x.write(1, i, longs[i]);
+        }
+        due("longs that are no course, no rule", x.orders(1), 0);
+        x.undo();
+        x.sheet(1, -1, 0);
         x.sheet(0, 0, 0);
         due("an empty one", x.orders(0), 0);
         due("both are changes", x.count(4), 10);
@@ -754,7 +814,8 @@ public final class PromiseTest {
     private static void faults() {
         Object[][] faults = {{"", 0}, {"   ", 3}, {"pupils", 0}, {" ;", 1}, {"pupil ;", 7}, {"pupil ; ", 8},
             {"pupil pupil", 6}, {"pupil away", 10}, {"pupil away wish", 11}, {"pupil away 20", 11},
-            {"pupil away 01", 11}, {"pupil away 1 -1", 13}, {"pupil wish", 10}, {"pupil wish e", 11},
+            {"pupil away 01", 11}, {"pupil away 1x", 11}, {"pupil away 1: 2", 11}, {"pupil away 1/", 11},
+            {"pupil away 2 21", 13}, {"pupil away 100", 11}, {"pupil away 1 -1", 13}, {"pupil wish", 10}, {"pupil wish e", 11},
             {"pupil wish a away 1", 13}, {"pupil wish ab", 11}, {"lab", 3}, {"lab e", 4}, {"lab a", 5}, {"lab a 2", 6},
             {"lab a 0", 7}, {"lab a 0 cap", 8}, {"lab a 0 1", 9}, {"lab a 0 1 with", 10}, {"lab a 0 1 cap", 13},
             {"lab a 0 1 cap 10", 14}, {"lab a 0 1 cap 1 with", 20}, {"lab a 0 1 cap 1 with 2", 21},
