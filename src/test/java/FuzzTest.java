@@ -11,6 +11,8 @@ import java.util.Random;
 public final class FuzzTest {
     private static final int RUNS = 1200;
     private static final int CALLS = 512;
+    /** How many calls at most it takes to wipe the tape, feed all of it and read it. */
+    private static final int LONGEST_TEXT = 122;
     private static final String[] WORDS = {"pupil", "early", "late", "athlete", "night", "free", "away", "wish",
         "lecture", "lab", "drill", "cap", "with", ";", "a", "b", "c", "d", "e", "0", "1", "2", "7", "10", "19", "20",
         "00", "01", "x", "pupil;", "\u00e9"};
@@ -118,7 +120,7 @@ public final class FuzzTest {
             prepare();
         }
         while (log.size() < CALLS && !differs) {
-            if (random.nextInt(60) == 0) {
+            if (random.nextInt(60) == 0 && log.size() + LONGEST_TEXT <= CALLS) {
                 tellText();
             } else {
                 String name = drawName();

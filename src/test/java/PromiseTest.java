@@ -933,7 +933,6 @@ public final class PromiseTest {
 
     private static void undoneAndTold() {
         undo();
-        undoOfAll();
         count();
         status();
     }
@@ -954,61 +953,6 @@ public final class PromiseTest {
         due("what failed is no change", x.section(0, 0, 0, -1, 1, -1), BEYOND);
         due("undo", x.undo(), 0);
         due("time", x.of(0, 0, 0, 1), 9);
-    }
-
-    /** Every act that is a change is undone by one undo, and no other act is a change. */
-    private static void undoOfAll() {
-        SectionOffice x = whole(2, 2);
-        x.sheet(0, 1, 3);
-        x.seed(5);
-        int kept = x.count(4);
-        Runnable[] changes = {() -> x.section(1, 0, 0, 1, 1, 1), () -> x.shut(0, 0, 0), () -> x.pupil(0, 0, 0),
-            x::leave, () -> x.change(0, 0, 3), () -> x.put(0, 0, 3), () -> x.pick(0, 0, 1), () -> x.fill(0),
-            () -> x.seat(0), () -> x.evens(0), () -> x.lets(0, 0), () -> x.orders(0), () -> tell(x, "pupil"),
-            () -> x.loose(5)};
-        for (int i = 0; i < changes.length; i++) {
-            int before = told(x);
-            changes[i].run();
-            due("a change: " + i, x.count(4), kept + 1);
-            due("undone: " + i, x.undo(), kept);
-            due("all as ahead of it: " + i, told(x), before);
-        }
-        x.put(0, 0, 0);
-        x.put(1, 0, 7);
-        int before = told(x);
-        x.trade(0, 1, 0);
-        due("undone: trade", x.undo(), kept + 2);
-        due("as ahead of it", told(x), before);
-        x.out(0, 0);
-        due("undone: out", x.undo(), kept + 2);
-        due("as ahead of it", told(x), before);
-        x.would(0, 0, 0);
-        x.sheet(1, 1, 1);
-        x.write(1, 0, 1);
-        x.copy(1, 0, 1, 0, 1);
-        feed(x, "x");
-        x.text();
-        x.seed(3);
-        x.chain(0, 0);
-        due("no changes", x.count(4), kept + 2);
-        x.loose(1);
-        int z = x.count(5);
-        x.undo();
-        due("z isn't undone", x.count(5), z);
-        due("nor sheets", x.item(1, 0), 1);
-    }
-
-    private static int told(SectionOffice x) {
-        int all = 17 * x.count(0) + x.count(1);
-        for (int part = 0; part < 24; part++) {
-            for (int what = 0; what < 6; what++) {
-                all = 31 * all + x.of(part / 6, part % 6 / 2, part % 2, what);
-            }
-        }
-        for (int what = 0; what < 42; what++) {
-            all = 31 * all + x.its(what / 14, what % 14);
-        }
-        return all;
     }
 
     private static void count() {
