@@ -10,6 +10,7 @@ final class SeatingEdges extends Edges {
         askedBefore();
         seatMost();
         seatFewestMoved();
+        movedToNone();
         seatFirst();
         evensMost();
         evensLeastUneven();
@@ -131,6 +132,19 @@ final class SeatingEdges extends Edges {
         row(fixed, "seat(0)", 1, "its(0, 10)", 4, "its(1, 10)", 0, "its(2, 10)", 0);
     }
 
+    /** One that would be put to none is moved like one put elsewhere: of both the first, whoever is new. */
+    private static void movedToNone() {
+        Run tie = new Run("section(0, 0, 0, {0}, 1, -1)", "section(0, 0, 1, {1}, 1, -1)",
+                "section(0, 1, 0, {2}, 1, -1)", "section(0, 1, 1, {3}, 1, -1)", "pupil(0, {3}, 1)",
+                "pupil(0, {1 2}, 1)", "pupil(0, {0 3}, 1)", "put(0, 0, 0)");
+        promise(23);
+        row(tie, "most(0)", 2, "seat(0)", 1, "its(0, 10)", -1, "its(1, 10)", 2, "its(2, 10)", 4);
+        promise(24);
+        row(tie, "evens(0)", 0, "its(0, 10)", -1, "its(1, 10)", 2, "its(2, 10)", 4);
+        promise(26);
+        row(tie, "chain(1, 0)", 1, "lets(1, 0)", 2, "its(0, 10)", 4, "its(2, 10)", -1);
+    }
+
     private static void seatFirst() {
         promise(23);
         row(lectures(1, 0, 3), "seat(0)", 0, "its(0, 10)", -1, "its(1, 10)", -1, "its(2, 10)", 0);
@@ -147,6 +161,9 @@ final class SeatingEdges extends Edges {
                         i == pupils - 1 ? 7 : i == pupils - 2 ? 0 : -1);
             }
         }
+        Run oneSeat = Starts.whole(0, 6).then("section(0, 0, 1, {1}, 1, -1)", "section(0, 1, 1, {3}, 1, -1)",
+                "section(0, 2, 1, {5}, 1, -1)");
+        row(oneSeat, "most(0)", 1, "seat(0)", 0, "its(4, 10)", -1, "its(5, 10)", 7, "count(2)", 1);
         row(Starts.whole(9, 6), "seat(0)", 0, "its(0, 10)", 0, "its(5, 10)", 0);
         row(Starts.whole(3, 6), "seat(0)", 0, "its(0, 10)", 0, "its(2, 10)", 0, "its(3, 10)", 7, "its(5, 10)", 7);
         row(lectures(1, 0, 3).then("change(2, 2, 14)"), "seat(0)", 0, "its(1, 10)", 0, "its(2, 10)", -1);

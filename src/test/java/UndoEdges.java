@@ -12,6 +12,7 @@ final class UndoEdges extends Edges {
         noChange();
         changesThatAlterNothing();
         thirty();
+        to512();
         upAndDown();
         notUndone();
         undoFindings();
@@ -81,6 +82,22 @@ final class UndoEdges extends Edges {
             Checks.same(made + " changes, all undone", x.undo(), LOW - NONE);
             Checks.same(made + " changes, all undone: pupils", x.count(0), made < 30 ? 0 : 1);
         }
+    }
+
+    /** To its last call an object does what it did at first. */
+    private static void to512() {
+        promise(39);
+        SectionOffice x = new SectionOffice();
+        Checks.same("call 1", x.pupil(0, 0, 0), 0);
+        for (int call = 2; call <= 450; call++) {
+            Checks.same("call " + call, x.change(0, 1, call), call == 2 ? 0 : call - 1);
+        }
+        Checks.same("call 451", x.count(4), 30);
+        for (int i = 1; i <= 30; i++) {
+            Checks.same("undo " + i, x.undo(), 30 - i);
+            Checks.same("away after undo " + i, x.its(0, 1), 450 - i);
+        }
+        Checks.same("call 512", x.undo(), LOW - NONE);
     }
 
     /** What is undone is gone: a new change stands in its place. */
