@@ -9,7 +9,7 @@ import java.util.Map;
 
 /**
  * A run of calls, told as texts, from which any number of like objects can be made: so each question is asked of an
- * object of its own, and none of them comes near its 512th call.
+ * object of its own, and none of them goes past its 512th call.
  *
  * <p>Numbers may be told as sets, {0 19} being the bits 0 and 19, or as MIN and MAX (ints), LMIN and LMAX (longs). Beside
  * the calls of the face there are tape 'words', which feeds the bytes of the words, and tell 'words', which feeds them
