@@ -153,14 +153,7 @@ final class SeatingEdges extends Edges {
         row(lectures(2, 1, 3), "seat(0)", 0, "its(0, 10)", 0, "its(1, 10)", 0, "its(2, 10)", 4);
         row(lectures(2, 1, 3).then("change(0, 1, {0})"), "seat(0)", 0, "its(0, 10)", 4, "its(1, 10)", 0,
                 "its(2, 10)", 0);
-        for (int pupils = 2; pupils <= 6; pupils++) {
-            SectionOffice x = Starts.whole(1, pupils).made();
-            Checks.same("none must move", x.seat(0), 0);
-            for (int i = 0; i < pupils; i++) {
-                Checks.same("of " + pupils + ": its(" + i + ", 10)", x.its(i, 10),
-                        i == pupils - 1 ? 7 : i == pupils - 2 ? 0 : -1);
-            }
-        }
+        lastOnesSit();
         Run oneSeat = Starts.whole(0, 6).then("section(0, 0, 1, {1}, 1, -1)", "section(0, 1, 1, {3}, 1, -1)",
                 "section(0, 2, 1, {5}, 1, -1)");
         row(oneSeat, "most(0)", 1, "seat(0)", 0, "its(4, 10)", -1, "its(5, 10)", 7, "count(2)", 1);
@@ -169,6 +162,31 @@ final class SeatingEdges extends Edges {
         row(lectures(1, 0, 3).then("change(2, 2, 14)"), "seat(0)", 0, "its(1, 10)", 0, "its(2, 10)", -1);
         row(lectures(9, 9, 2).then("section(1, 0, 0, {9}, 9, -1)", "put(0, 1, 0)"), "seat(0)", 0, "its(0, 11)", 0,
                 "its(1, 11)", -1, "count(2)", 3);
+    }
+
+    /** Of 64 sets of open sections, with a seat each, and two to six pupils: digit 0 comes first, so the last ones sit. */
+    private static void lastOnesSit() {
+        for (int open = 0; open < 64; open++) {
+            Run run = NEW;
+            for (int part = 0; part < 6; part++) {
+                if ((open >> part & 1) != 0) {
+                    run = run.then(Starts.sections(0, 1)[part]);
+                }
+            }
+            int[] lecture = {-1, 0, 1, 0};
+            int[] other = {0, 0, 1, 0};
+            boolean two = (open & 3) == 3 && (open >> 2 & 3) % 3 == 0 && (open >> 4 & 3) % 3 == 0;
+            int first = (open & 3) == 0 ? -1 : 4 * lecture[open & 3] + 2 * other[open >> 2 & 3] + other[open >> 4 & 3];
+            int second = 4 + ((open >> 2 & 3) == 3 ? 2 : 0) + ((open >> 4 & 3) == 3 ? 1 : 0);
+            for (int pupils = 2; pupils <= 6; pupils++) {
+                SectionOffice x = run.then(Starts.pupils(pupils)).made();
+                Checks.same("none must move", x.seat(0), 0);
+                for (int i = 0; i < pupils; i++) {
+                    int due = i == pupils - 1 ? two ? second : first : i == pupils - 2 && two ? first : -1;
+                    Checks.same("open " + open + ", of " + pupils + ": its(" + i + ", 10)", x.its(i, 10), due);
+                }
+            }
+        }
     }
 
     private static void evensMost() {
