@@ -62,6 +62,7 @@ public final class LanguageTest {
             checkFace(scanner.face, document);
         }
         checkSigns(Files.readString(source));
+        checkHeadings(Files.readString(source), Files.readString(document));
         FAULTS.forEach(System.out::println);
         System.out.println(FAULTS.isEmpty() ? "the source keeps to the rules" : FAULTS.size() + " rules are broken");
         if (!FAULTS.isEmpty()) {
@@ -74,6 +75,25 @@ public final class LanguageTest {
             if (source.charAt(i) > 127) {
                 FAULTS.add("rule 4: a sign above 127 at " + i);
             }
+        }
+    }
+
+    /** Ahead of which calls the document wants which words, the latest heading being the one that counts. */
+    private static void checkHeadings(String source, String document) {
+        Matcher due = Pattern.compile("(?m)^Ahead of the calls (.*) the interface says: (---- .*)\\.$").matcher(document);
+        int headings = 0;
+        while (due.find()) {
+            headings++;
+            for (String call : due.group(1).replace("`", "").split(", ")) {
+                Matcher m = Pattern.compile("\n    public (?:int|long) " + call + "\\(").matcher(source);
+                int from = m.find() ? source.lastIndexOf("\n    // ---- ", m.start()) : -1;
+                if (from < 0 || !source.startsWith("\n    // " + due.group(2) + "\n", from)) {
+                    FAULTS.add("ahead of " + call + " the document wants: " + due.group(2));
+                }
+            }
+        }
+        if (headings == 0) {
+            FAULTS.add("the document tells no words ahead of the calls");
         }
     }
 
